@@ -408,6 +408,7 @@ public final class BarCodes {
     private static final class Form {
         static final int SQUARE = 2;
         static final int ERASED = -1;
+        private static final int SHORT = 0;
         private static final int LONG = 1;
         private static final int TAGS = 3;
         private static final int UP = 1;
@@ -436,7 +437,7 @@ public final class BarCodes {
             widths = widthsOf(kind);
             checks = checksOf(kind);
             symbols = dataSymbols(widths) + checks;
-            fourHeights = kind <= LONG;
+            fourHeights = kind == SHORT || kind == LONG;
             barBits = fourHeights ? 2 : 1;
             symbolBars = fourHeights ? 3 : 6;
             highestBar = fourHeights ? 3 : 1;
@@ -446,7 +447,7 @@ public final class BarCodes {
 
         private static int[] widthsOf(int kind) {
             switch (kind) {
-                case 0: return SHORT_WIDTHS;
+                case SHORT: return SHORT_WIDTHS;
                 case LONG: return LONG_WIDTHS;
                 case SQUARE: return SQUARE_WIDTHS;
                 default: return TAG_WIDTHS;
@@ -455,7 +456,7 @@ public final class BarCodes {
 
         private static int checksOf(int kind) {
             switch (kind) {
-                case 0: return 4;
+                case SHORT: return 4;
                 case LONG: return 6;
                 case SQUARE: return 8;
                 default: return 2;

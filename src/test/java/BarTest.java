@@ -23,6 +23,17 @@ public final class BarTest {
 
     private static void refused(BarCodes codes, int i) {
         Due.throwing("bar(" + i + ")", ArrayIndexOutOfBoundsException.class, () -> codes.bar(i));
+        Due.holds("bar(" + i + ") throws by itself, not the machine", !machineThrows(codes, i));
+    }
+
+    /** The machine names the index; what the class throws has a written text. */
+    private static boolean machineThrows(BarCodes codes, int i) {
+        try {
+            codes.bar(i);
+        } catch (ArrayIndexOutOfBoundsException e) {
+            return e.getMessage() == null || e.getMessage().startsWith("Index");
+        }
+        return false;
     }
 
     private static void bars() {

@@ -3,6 +3,7 @@ public final class MaskTest {
     public static void main(String[] args) {
         leastPenalty();
         leastOfSeveral();
+        darkOnesDecide();
         whicheverCameLast();
         nearestOfRead();
         noneForOtherForms();
@@ -39,6 +40,17 @@ public final class MaskTest {
         made(0, 1162, 26483509744L);
         made(1, 1032, 39946158358L);
         made(2, 222, 40207164724L);
+    }
+
+    /** Here another mask would be the best if the dark ones counted otherwise or not at all. */
+    private static void darkOnesDecide() {
+        made(0, 494, 17362845165L);
+        made(0, 3439, 9192643937L);
+        made(3, 3309, 20932697988L);
+        made(2, 173, 11743643067L);
+        made(0, 2665, 8183598780L);
+        made(0, 3249, 16916862986L);
+        made(1, 2696, 40708141692L);
     }
 
     private static void whicheverCameLast() {
