@@ -1,39 +1,69 @@
 /** Promise 4: a bar of the row that was made last. */
 public final class BarTest {
+    private static final int[] FORMS = {0, 1, 2, 3, 65536};
+
     public static void main(String[] args) {
-        outside(Rows.given(0, 1, 2, 3), 40);
-        outside(Rows.given(1, 1, 2, 3, 4), 70);
-        outside(Rows.given(2, 1, 2), 144);
-        outside(Rows.given(3, 1), 34);
+        for (int form : FORMS) {
+            firstAndLastBar(form);
+            noneSuch(form);
+            noRow(form);
+            noRowByReading(form);
+            thrownByTheClass(form);
+        }
         bars();
         Due.end();
     }
 
-    private static void outside(BarCodes codes, int length) {
-        refused(codes, 0);
-        refused(codes, length - 1);
-        codes.make();
-        int[] wrong = {-1, length, 144, 200, Integer.MIN_VALUE, Integer.MAX_VALUE};
+    private static void firstAndLastBar(int form) {
+        int kind = Forms.kind(form);
+        BarCodes codes = Rows.given(form, Forms.VALUES[kind]);
+        int length = codes.make();
+        Due.same("the first bar of form " + form, codes.bar(0), 1);
+        Due.same("the second bar of form " + form, codes.bar(1), Forms.fourHeights(kind) ? 3 : 0);
+        Due.same("the last bar but one of form " + form, codes.bar(length - 2), Forms.fourHeights(kind) ? 0 : 1);
+        Due.same("the last bar of form " + form, codes.bar(length - 1), 1);
+    }
+
+    private static void noneSuch(int form) {
+        int length = Forms.LENGTHS[Forms.kind(form)];
+        int[] wrong = {-1, -2, length, length + 1, 144, 200, Integer.MIN_VALUE, Integer.MAX_VALUE};
         for (int i : wrong) {
-            refused(codes, i);
+            Unchanged.refusedEver("bar(" + i + ")", form, ArrayIndexOutOfBoundsException.class, codes -> codes.bar(i));
         }
-        Due.same("the first bar is as before", codes.bar(0), 1);
-        Due.same("the last bar", codes.bar(length - 1), 1);
     }
 
-    private static void refused(BarCodes codes, int i) {
-        Due.throwing("bar(" + i + ")", ArrayIndexOutOfBoundsException.class, () -> codes.bar(i));
-        Due.holds("bar(" + i + ") throws by itself, not the machine", !machineThrows(codes, i));
+    private static void noRow(int form) {
+        int[] first = {0, 1, Forms.LENGTHS[Forms.kind(form)] - 1};
+        for (int i : first) {
+            String what = "bar(" + i + ") without a row";
+            Unchanged.refused(what, States.fresh(form), ArrayIndexOutOfBoundsException.class, codes -> codes.bar(i));
+            Unchanged.refused(what, States.begun(form), ArrayIndexOutOfBoundsException.class, codes -> codes.bar(i));
+        }
+        BarCodes codes = new BarCodes(form);
+        Rows.give(codes, Forms.VALUES[Forms.kind(form)]);
+        Due.throwing("bar(0) before make()", ArrayIndexOutOfBoundsException.class, () -> codes.bar(0));
+        codes.make();
+        Due.taken("bar(0) after it", () -> codes.bar(0));
     }
 
-    /** The machine names the index; what the class throws has a written text. */
-    private static boolean machineThrows(BarCodes codes, int i) {
-        try {
-            codes.bar(i);
-        } catch (ArrayIndexOutOfBoundsException e) {
-            return e.getMessage() == null || e.getMessage().startsWith("Index");
+    private static void noRowByReading(int form) {
+        BarCodes codes = new BarCodes(form);
+        Rows.parse(codes, Rows.of(form, Forms.VALUES[Forms.kind(form)]));
+        Due.throwing("bar(0) when a row was read", ArrayIndexOutOfBoundsException.class, () -> codes.bar(0));
+    }
+
+    /** The machine would name the index; what the class throws has a written text. */
+    private static void thrownByTheClass(int form) {
+        BarCodes codes = Rows.given(form, Forms.VALUES[Forms.kind(form)]);
+        int length = codes.make();
+        for (int i : new int[] {-1, length}) {
+            try {
+                codes.bar(i);
+            } catch (ArrayIndexOutOfBoundsException e) {
+                String text = e.getMessage();
+                Due.holds("bar(" + i + ") is looked at before the array is", text != null && !text.startsWith("Index"));
+            }
         }
-        return false;
     }
 
     private static void bars() {

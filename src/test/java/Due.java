@@ -1,5 +1,7 @@
 /** Counts the answers of one test that are not as due, and tells them. */
 final class Due {
+    private static final String NOTHING = "nothing thrown";
+
     private static int wrong = 0;
 
     private Due() {
@@ -30,8 +32,16 @@ final class Due {
 
     /** The very class is due, as a class below it would be another answer. */
     static void throwing(String what, Class<? extends RuntimeException> want, Call call) {
-        String got = thrownBy(call);
-        same(what, got, want.getSimpleName());
+        same(what, thrownBy(call), want.getSimpleName());
+    }
+
+    /** The call is taken: it throws nothing. */
+    static void taken(String what, Call call) {
+        same(what, thrownBy(call), NOTHING);
+    }
+
+    static boolean throwsAny(Call call) {
+        return !thrownBy(call).equals(NOTHING);
     }
 
     static String thrownBy(Call call) {
@@ -40,7 +50,7 @@ final class Due {
         } catch (RuntimeException e) {
             return e.getClass().getSimpleName();
         }
-        return "nothing thrown";
+        return NOTHING;
     }
 
     static void tell(String text) {

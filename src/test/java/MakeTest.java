@@ -1,20 +1,31 @@
 /** Promise 3: a row is made of the fields. */
 public final class MakeTest {
+    private static final int[] FORMS = {0, 1, 2, 3, 65536};
+
     public static void main(String[] args) {
         rowsOfEachForm();
-        nothingWithoutEachField();
-        rowStays();
+        for (int form : FORMS) {
+            for (int what = 0; what < Forms.WIDTHS[Forms.kind(form)].length; what++) {
+                noneWithoutAField(form, what);
+                lastFieldCompletes(form, what);
+            }
+            noneWhenAllWereRefused(form);
+            zerosAreValues(form);
+            rowStaysWhenFieldsGetOtherValues(form);
+            rowStaysWhenAValueIsRefused(form);
+            rowStaysWhenOthersAreRead(form);
+            madeTwice(form);
+        }
         Due.end();
     }
 
     private static void rowsOfEachForm() {
-        row("1301100331002100033333333311331213211101", 0, 5, 1000000, 262143);
+        for (int kind = 0; kind < Forms.KINDS; kind++) {
+            row(Forms.ROWS[kind], kind, Forms.VALUES[kind]);
+        }
         row("1333300000000000020000000133001311123301", 0, 63, 0, 131073);
         row("1300100000000000200000000000000300000000000000001010310103313100212001", 1, 1, 2, 3, 4);
-        row("1320122233031323322222222222222201020310111213202102203102101123300001",
-                1, 33, 0xABCDEF, 0x2AAAAAAA, 0x123456789L);
         row("1000000000000000000000001100001111", 3, 0);
-        row("1010101100001111000101111100110011", 3, 0x2B0F1);
         row("1010101100001111000101101100100011", 7, 0x2B0F1);
         row("1010101100001111000101110000111111", 64, 0x2B0F1);
         row("1010101100001111000101111000110111", 66, 0x2B0F1);
@@ -24,9 +35,6 @@ public final class MakeTest {
         row("101010101010101010101010110101010101101010101010110101010101101010101100"
                 + "100111001001110110000010100010010101110010111110101100000001111111111111",
                 2, 4095, 68719476735L);
-        row("101010101010101011010010110111011011100110100010110100110001110001001000"
-                + "111111000111101101111000101110001011110011111010100100101111111111111111",
-                2, 1445, 4886718345L);
     }
 
     private static void row(String want, int form, long... values) {
@@ -35,33 +43,74 @@ public final class MakeTest {
         Due.same("the row of form " + form, Rows.text(codes, want.length()), want);
     }
 
-    private static void nothingWithoutEachField() {
-        int[] counts = {3, 4, 2, 1};
-        for (int form = 0; form < counts.length; form++) {
-            for (int without = 0; without < counts[form]; without++) {
-                BarCodes codes = new BarCodes(form);
-                for (int what = 0; what < counts[form]; what++) {
-                    if (what != without) {
-                        codes.field(what, 0);
-                    }
-                }
-                Due.same("make() of form " + form + " without field " + without, codes.make(), BarCodes.NONE);
-            }
-        }
+    private static void noneWithoutAField(int form, int what) {
+        Unchanged.by("make() without field " + what, States.without(form, what), codes ->
+                Due.same("make() of form " + form + " without field " + what, codes.make(), BarCodes.NONE));
     }
 
-    private static void rowStays() {
-        BarCodes codes = Rows.given(0, 5, 1000000, 262143);
+    private static void lastFieldCompletes(int form, int what) {
+        int kind = Forms.kind(form);
+        BarCodes codes = States.without(form, what).made();
+        Due.same("make() when field " + what + " has no value", codes.make(), BarCodes.NONE);
+        Due.throwing("bar(0) then", ArrayIndexOutOfBoundsException.class, () -> codes.bar(0));
+        codes.field(what, Forms.VALUES[kind][what]);
+        Due.same("make() when field " + what + " has got it", codes.make(), Forms.LENGTHS[kind]);
+        Due.same("the row then", Rows.text(codes, Forms.LENGTHS[kind]), Rows.of(form, Forms.VALUES[kind]));
+    }
+
+    private static void noneWhenAllWereRefused(int form) {
+        int kind = Forms.kind(form);
+        BarCodes codes = new BarCodes(form);
+        for (int what = 0; what < Forms.WIDTHS[kind].length; what++) {
+            int field = what;
+            Due.throwsAny(() -> codes.field(field, -1));
+            Due.throwsAny(() -> codes.field(field, Forms.most(kind, field) + 1));
+        }
+        Due.same("make() of form " + form + " when all values were refused", codes.make(), BarCodes.NONE);
+    }
+
+    private static void zerosAreValues(int form) {
+        int kind = Forms.kind(form);
+        BarCodes codes = Rows.given(form, new long[Forms.WIDTHS[kind].length]);
+        Due.same("make() of zeros in form " + form, codes.make(), Forms.LENGTHS[kind]);
+    }
+
+    private static void rowStaysWhenFieldsGetOtherValues(int form) {
+        int kind = Forms.kind(form);
+        BarCodes codes = Rows.given(form, Forms.VALUES[kind]);
         int length = codes.make();
-        String first = Rows.text(codes, length);
-        Rows.give(codes, 63, 0, 131073);
-        Due.same("the row when fields got other values", Rows.text(codes, length), first);
+        Rows.give(codes, Forms.OTHERS[kind]);
+        Due.same("the row when fields got other values", Rows.text(codes, length), Rows.of(form, Forms.VALUES[kind]));
+        Due.same("make() anew", codes.make(), length);
+        Due.same("the row made anew", Rows.text(codes, length), Rows.of(form, Forms.OTHERS[kind]));
+    }
+
+    private static void rowStaysWhenAValueIsRefused(int form) {
+        int kind = Forms.kind(form);
+        BarCodes codes = Rows.given(form, Forms.VALUES[kind]);
+        int length = codes.make();
+        Due.throwsAny(() -> codes.field(0, -1));
+        Due.same("the row when a value was refused", Rows.text(codes, length), Rows.of(form, Forms.VALUES[kind]));
         codes.make();
-        Due.same("the row made anew", Rows.text(codes, length), Rows.of(0, 63, 0, 131073));
-        String second = Rows.text(codes, length);
-        Rows.parse(codes, first);
-        Due.same("the row when another one was read", Rows.text(codes, length), second);
+        Due.same("the row made anew then", Rows.text(codes, length), Rows.of(form, Forms.VALUES[kind]));
+    }
+
+    private static void rowStaysWhenOthersAreRead(int form) {
+        int kind = Forms.kind(form);
+        BarCodes codes = Rows.given(form, Forms.VALUES[kind]);
         codes.make();
-        Due.same("the fields to make of when another row was read", Rows.text(codes, length), second);
+        Rows.parse(codes, Rows.of(form, Forms.OTHERS[kind]));
+        String row = Rows.of(form, Forms.VALUES[kind]);
+        Due.same("the row when another one was read", Rows.text(codes, row.length()), row);
+        codes.make();
+        Due.same("the row made anew of the same fields", Rows.text(codes, row.length()), row);
+    }
+
+    private static void madeTwice(int form) {
+        int kind = Forms.kind(form);
+        BarCodes codes = Rows.given(form, Forms.VALUES[kind]);
+        Due.same("make()", codes.make(), Forms.LENGTHS[kind]);
+        Due.same("make() a second time", codes.make(), Forms.LENGTHS[kind]);
+        Due.same("the row then", Rows.text(codes, Forms.LENGTHS[kind]), Rows.of(form, Forms.VALUES[kind]));
     }
 }

@@ -46,7 +46,7 @@ public final class MendingTest {
         int[] symbols = random.ints(0, SYMBOLS[kind]).distinct().limit(erased + wrong).toArray();
         String result = row;
         for (int k = 0; k < symbols.length; k++) {
-            int[] places = ParseTest.places(kind, symbols[k]);
+            int[] places = Forms.places(kind, symbols[k]);
             if (k < erased) {
                 result = Rows.erased(result, places[random.nextInt(places.length)]);
             } else {

@@ -1,7 +1,8 @@
 import java.util.Random;
 
-/** Long runs of calls, each answered by the class as by the model of the document (promises 1 to 12). */
+/** Runs of up to 512 calls, each answered by the class as by the model of the document (promises 1 to 12). */
 public final class ModelRunsTest {
+    private static final int MOST_CALLS = 512;
     private static final int[] FORMS = {
         0, 1, 2, 3, 0, 1, 2, 4, 63, 64, 65535, 65536, -5, 65537, 65538, 65539, 65540, 1000003, Integer.MAX_VALUE,
     };
@@ -11,6 +12,7 @@ public final class ModelRunsTest {
     private final PlainModel model;
     private final int form;
     private String lastRow;
+    private int calls = 0;
 
     private ModelRunsTest(int form, long seed) {
         this.form = form;
@@ -21,7 +23,7 @@ public final class ModelRunsTest {
     }
 
     public static void main(String[] args) {
-        for (int seed = 0; seed < 12; seed++) {
+        for (int seed = 0; seed < 100; seed++) {
             for (int form : FORMS) {
                 new ModelRunsTest(form, seed).run();
             }
@@ -30,7 +32,7 @@ public final class ModelRunsTest {
     }
 
     private void run() {
-        for (int turn = 0; turn < 30; turn++) {
+        while (calls < MOST_CALLS) {
             switch (random.nextInt(4)) {
                 case 0 -> someField();
                 case 1 -> makeRow();
@@ -53,8 +55,12 @@ public final class ModelRunsTest {
         }
     }
 
+    /** What the 513th call answers is free: it and those behind it are left out. */
     private void both(String what, Answer ofClass, Answer ofModel) {
-        Due.same("form " + form + ": " + what, answer(ofClass), answer(ofModel));
+        calls++;
+        if (calls <= MOST_CALLS) {
+            Due.same("form " + form + ": " + what, answer(ofClass), answer(ofModel));
+        }
     }
 
     private void field(int what, long v) {
@@ -96,6 +102,9 @@ public final class ModelRunsTest {
             field(what, random.nextLong() >>> 64 - random.nextInt(1, model.fieldWidth(what) + 1));
         }
         both("make()", codes::make, model::make);
+        if (calls > MOST_CALLS) {
+            return;
+        }
         StringBuilder row = new StringBuilder();
         for (int i = 0; i < model.rowLength(); i++) {
             int place = i;

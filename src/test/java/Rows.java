@@ -75,6 +75,14 @@ final class Rows {
         return result.toString();
     }
 
+    static String text(long... values) {
+        StringBuilder result = new StringBuilder();
+        for (int what = 0; what < values.length; what++) {
+            result.append(what == 0 ? "" : " ").append(values[what]);
+        }
+        return result.toString();
+    }
+
     static String fields(BarCodes codes, int count) {
         StringBuilder result = new StringBuilder();
         for (int what = 0; what < count; what++) {

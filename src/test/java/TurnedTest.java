@@ -1,104 +1,97 @@
 /** Promise 12: whether the latest row that was right was turned. */
 public final class TurnedTest {
-    private static final long[][] VALUES = {{5, 1000000, 262143}, {1, 2, 3, 4}, {1445, 4886718345L}, {0x2B0F1}};
+    private static final int[] FORMS = {0, 1, 2, 3, 65536};
 
     public static void main(String[] args) {
-        for (int form = 0; form < VALUES.length; form++) {
+        for (int form : FORMS) {
+            notAtFirst(form);
+            notWhenNoneWasRight(form);
             bothSides(form);
+            latestRightCounts(form);
+            staysWhenOthersAreNotRight(form);
+            staysWhenOneIsMade(form);
+            alikeFromBothSides(form);
         }
         upAndDownExchanged();
-        framesCount();
-        squareFrame();
         Due.end();
     }
 
-    private static void bothSides(int form) {
-        String row = Rows.of(form, VALUES[form]);
-        String other = Rows.turned(form, row);
-        BarCodes codes = new BarCodes(form);
-        Due.holds("not turned() at first", !codes.turned());
-        reads(codes, form, other, true);
-        reads(codes, form, row, false);
-        reads(codes, form, other, true);
-        Due.same("parse() of nothing", codes.parse(), BarCodes.NONE);
-        Due.same("parse() of a short row", Rows.parse(codes, row.substring(1)), BarCodes.NONE);
-        Due.same("parse() of erased ones", Rows.parse(codes, "?".repeat(row.length())), BarCodes.NONE);
-        Due.holds("turned() still", codes.turned());
-        codes.field(0, 1);
-        codes.make();
-        Due.holds("turned() when fields got values", codes.turned());
+    private static String row(int form) {
+        return Rows.of(form, Forms.VALUES[Forms.kind(form)]);
+    }
+
+    private static String other(int form) {
+        return Rows.turned(Forms.kind(form), row(form));
     }
 
     private static void reads(BarCodes codes, int form, String row, boolean turned) {
-        Due.same("parse() of form " + form, Rows.parse(codes, row), VALUES[form].length);
+        long[] values = Forms.VALUES[Forms.kind(form)];
+        Due.same("parse() of form " + form, Rows.parse(codes, row), values.length);
         Due.same("turned() of form " + form, codes.turned() ? 1 : 0, turned ? 1 : 0);
-        for (int what = 0; what < VALUES[form].length; what++) {
-            Due.same("value(" + what + ") of form " + form, codes.value(what), VALUES[form][what]);
+        Due.same("the fields of form " + form, Rows.fields(codes, values.length), Rows.text(values));
+    }
+
+    private static void notAtFirst(int form) {
+        Due.holds("not turned() at first", !new BarCodes(form).turned());
+    }
+
+    private static void notWhenNoneWasRight(int form) {
+        BarCodes codes = new BarCodes(form);
+        int kind = Forms.kind(form);
+        String row = row(form);
+        for (int symbol = 0; symbol <= Forms.CHECKS[kind]; symbol++) {
+            row = Rows.erased(row, Forms.places(kind, symbol)[0]);
         }
+        int parsed = Rows.parse(codes, Rows.turned(kind, row));
+        Due.same("parse() of a turned row that is not right", parsed, BarCodes.NONE);
+        Due.holds("not turned() then", !codes.turned());
+        Due.same("parse() of one too short", Rows.parse(codes, other(form).substring(1)), BarCodes.NONE);
+        Due.holds("not turned() when it was too short", !codes.turned());
+    }
+
+    private static void bothSides(int form) {
+        reads(new BarCodes(form), form, row(form), false);
+        reads(new BarCodes(form), form, other(form), true);
+    }
+
+    private static void latestRightCounts(int form) {
+        BarCodes codes = new BarCodes(form);
+        reads(codes, form, other(form), true);
+        reads(codes, form, row(form), false);
+        reads(codes, form, other(form), true);
+    }
+
+    private static void staysWhenOthersAreNotRight(int form) {
+        BarCodes codes = new BarCodes(form);
+        reads(codes, form, other(form), true);
+        codes.parse();
+        Rows.parse(codes, row(form).substring(1));
+        Due.holds("turned() when a row was too short", codes.turned());
+        Rows.parse(codes, "?".repeat(row(form).length()));
+        Due.holds("turned() when a row was not right", codes.turned());
+    }
+
+    private static void staysWhenOneIsMade(int form) {
+        BarCodes codes = Rows.given(form, Forms.OTHERS[Forms.kind(form)]);
+        reads(codes, form, other(form), true);
+        codes.make();
+        Due.holds("turned() when a row was made", codes.turned());
+    }
+
+    /** Turned twice, a row is as it was. */
+    private static void alikeFromBothSides(int form) {
+        Due.same("the row turned twice", Rows.turned(Forms.kind(form), other(form)), row(form));
+        String spoilt = Rows.spoilt(row(form), Forms.places(Forms.kind(form), 1)[0]);
+        reads(new BarCodes(form), form, Rows.turned(Forms.kind(form), spoilt), true);
     }
 
     private static void upAndDownExchanged() {
-        String other = Rows.turned(0, Rows.of(0, VALUES[0]));
-        Due.same("the ends of a turned row", other.substring(0, 2) + other.substring(38), "2032");
-        BarCodes codes = new BarCodes(0);
-        String notExchanged = new StringBuilder(Rows.of(0, VALUES[0])).reverse().toString();
-        Due.same("a row from its end alone", Rows.parse(codes, notExchanged), BarCodes.NONE);
-    }
-
-    /** 1 3 .. 0 1 is direct, 2 0 .. 3 2 turned: as many of both, and it is direct. */
-    private static void framesCount() {
-        BarCodes codes = new BarCodes(0);
-        String row = Rows.of(0, VALUES[0]);
-        String inner = row.substring(2, 38);
-        reads(codes, 0, "1" + "?" + inner + "??", false);
-        reads(codes, 0, "??" + inner + "??", false);
-        reads(codes, 0, "10" + inner + "??", false);
-        reads(codes, 0, "23" + inner + "31", false);
-        String turnedInner = Rows.turned(0, row).substring(2, 38);
-        reads(codes, 0, "?0" + turnedInner + "??", true);
-        reads(codes, 0, "10" + turnedInner + "3?", true);
-        reads(codes, 0, "??" + turnedInner + "?2", true);
-        BarCodes tags = new BarCodes(3);
-        String tag = Rows.of(3, VALUES[3]);
-        reads(tags, 3, "??" + tag.substring(2, 32) + "??", false);
-        String turnedTag = Rows.turned(3, tag).substring(2, 32);
-        reads(tags, 3, "?1" + turnedTag + "??", true);
-        reads(tags, 3, "??" + turnedTag + "0?", true);
-        reads(tags, 3, "?0" + tag.substring(2, 32) + "0?", false);
-    }
-
-    /** Of the whole frame one module is left, then none. */
-    private static void squareFrame() {
-        String row = Rows.of(2, VALUES[2]);
-        String other = Rows.turned(2, row);
-        BarCodes codes = new BarCodes(2);
-        for (int place = 0; place < 144; place++) {
-            if (isFrame(place)) {
-                readsByOne(codes, row, other, place);
-            }
-        }
-        reads(codes, 2, frameErased(row, -1), false);
-    }
-
-    private static boolean isFrame(int place) {
-        return place < 12 || place >= 132 || place % 12 == 0 || place % 12 == 11;
-    }
-
-    private static String frameErased(String row, int but) {
-        String result = row;
-        for (int place = 0; place < 144; place++) {
-            if (isFrame(place) && place != but) {
-                result = Rows.erased(result, place);
-            }
-        }
-        return result;
-    }
-
-    /** A module tells the side only where the frame differs from the turned frame. */
-    private static void readsByOne(BarCodes codes, String row, String other, int place) {
-        reads(codes, 2, frameErased(row, place), false);
-        if (row.charAt(place) != other.charAt(place)) {
-            reads(codes, 2, frameErased(other, place), true);
+        for (int form = 0; form < 2; form++) {
+            String other = other(form);
+            int length = other.length();
+            Due.same("the ends of a turned row", other.substring(0, 2) + other.substring(length - 2), "2032");
+            String notExchanged = new StringBuilder(row(form)).reverse().toString();
+            Due.same("a row from its end alone", Rows.parse(new BarCodes(form), notExchanged), BarCodes.NONE);
         }
     }
 }
