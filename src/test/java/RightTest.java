@@ -19,6 +19,7 @@ public final class RightTest {
             erasedByOneOrAllParts(form);
             eachSymbol(form);
             turnedOnes(form);
+            oneAfterAnother(form);
         }
         nearToAnotherWord();
         Due.end();
@@ -47,8 +48,11 @@ public final class RightTest {
     }
 
     private static void reads(String what, int form, String row, int mended) {
+        reads(what, form, new BarCodes(form), row, mended);
+    }
+
+    private static void reads(String what, int form, BarCodes codes, String row, int mended) {
         long[] values = Forms.VALUES[Forms.kind(form)];
-        BarCodes codes = new BarCodes(form);
         Due.same("parse() of " + what + " in form " + form, Rows.parse(codes, row), values.length);
         Due.same("the fields of " + what, Rows.fields(codes, values.length), Rows.text(values));
         Due.same("mended() of " + what, codes.mended(), mended);
@@ -122,6 +126,27 @@ public final class RightTest {
                 Rows.turned(kind, spoilt(form, 1, 0, checks / 2)), checks / 2);
         reads("as many erased as can be, turned", form, Rows.turned(kind, spoilt(form, 1, checks, 0)), checks);
         refused("one more erased, turned", form, Rows.turned(kind, spoilt(form, 1, checks + 1, 0)));
+    }
+
+    /** What was mended in one row, or could not be, is forgotten in the next: as many as 512 calls have room for. */
+    private static void oneAfterAnother(int form) {
+        int kind = Forms.kind(form);
+        int checks = Forms.CHECKS[kind];
+        int[][] erasedAndWrong = {{checks, 0}, {0, checks / 2}, {checks + 1, 0}, {checks - 2, 1}, {1, checks / 2},
+            {0, 1}, {checks, 0}, {0, 0}, {1, checks / 2 - 1}, {0, checks / 2 + 1}, {0, checks / 2}, {1, 0}};
+        int rows = 512 / (Forms.LENGTHS[kind] + Forms.WIDTHS[kind].length + 2);
+        for (int first = 0; first < erasedAndWrong.length; first++) {
+            BarCodes codes = new BarCodes(form);
+            for (int k = 0; k < rows; k++) {
+                int[] next = erasedAndWrong[(first + k) % erasedAndWrong.length];
+                String row = spoilt(form, 2 * k, next[0], next[1]);
+                if (next[0] + 2 * next[1] <= checks) {
+                    reads("row " + k + " from " + first + " on", form, codes, row, next[0] + next[1]);
+                } else {
+                    Rows.parse(codes, row);
+                }
+            }
+        }
     }
 
     /**

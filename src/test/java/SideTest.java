@@ -1,3 +1,5 @@
+import java.util.stream.IntStream;
+
 /** Terms, READING: a row is TURNED if more of the frame are as they must be when it is turned than when not. */
 public final class SideTest {
     private static final int[] FORMS = {0, 1, 3, 65536};
@@ -107,7 +109,7 @@ public final class SideTest {
 
     /** The frame's modules that are other ones when a square is turned. */
     private static int[] tellingPlaces() {
-        return java.util.stream.IntStream.range(0, 144)
+        return IntStream.range(0, 144)
                 .filter(place -> isFrame(place) && SQUARE_ROW.charAt(place) != SQUARE_OTHER.charAt(place))
                 .toArray();
     }

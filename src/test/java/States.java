@@ -32,7 +32,7 @@ final class States {
         return new State("new", form, codes -> { }, firstRow(form));
     }
 
-    /** The last field has no value yet, and a bar is read. */
+    /** The last field has no value yet, a row was right, and a bar is read. */
     static State begun(int form) {
         return without(form, Forms.WIDTHS[Forms.kind(form)].length - 1);
     }
@@ -41,6 +41,7 @@ final class States {
         String row = firstRow(form);
         return new State("without field " + what, form, codes -> {
             giveBut(codes, Forms.VALUES[Forms.kind(form)], what);
+            readThird(codes, form);
             Rows.read(codes, row.substring(0, 1));
         }, row.substring(1));
     }
@@ -83,6 +84,12 @@ final class States {
         Rows.give(codes, Forms.VALUES[kind]);
         codes.make();
         Rows.give(codes, Forms.OTHERS[kind]);
+        readThird(codes, form);
+    }
+
+    /** It is turned, and a symbol of it is erased. */
+    private static void readThird(BarCodes codes, int form) {
+        int kind = Forms.kind(form);
         String row = Rows.erased(Rows.of(form, Forms.THIRDS[kind]), Forms.places(kind, 1)[0]);
         Rows.parse(codes, Rows.turned(kind, row));
     }

@@ -19,10 +19,27 @@ final class Unchanged {
         by(what, state, codes -> Due.throwing(what + " (" + state + ")", want, () -> call.on(codes)));
     }
 
-    /** Three objects of each, as none has calls enough for all the looks. */
+    /** Objects of their own for each look, as none has calls enough for all. */
     static void by(String what, States.State state, States.Steps call) {
-        alike(what + ": what was made and told", state, call, Unchanged::looks);
+        madeBy(what, state, call);
+        toldBy(what, state, call);
+        readBy(what, state, call);
+        fieldsBy(what, state, call);
+    }
+
+    static void madeBy(String what, States.State state, States.Steps call) {
+        alike(what + ": what was made", state, call, Unchanged::made);
+    }
+
+    static void toldBy(String what, States.State state, States.Steps call) {
+        alike(what + ": what was told", state, call, Unchanged::told);
+    }
+
+    static void readBy(String what, States.State state, States.Steps call) {
         alike(what + ": what was read", state, call, Unchanged::reads);
+    }
+
+    static void fieldsBy(String what, States.State state, States.Steps call) {
         alike(what + ": the fields", state, call, Unchanged::makes);
     }
 
@@ -31,10 +48,6 @@ final class Unchanged {
         call.on(with);
         BarCodes without = state.made();
         Due.same(what + " (" + state + ")", look.at(with, state), look.at(without, state));
-    }
-
-    private static String looks(BarCodes codes, States.State state) {
-        return made(codes, state) + " " + told(codes, state);
     }
 
     private static String reads(BarCodes codes, States.State state) {
