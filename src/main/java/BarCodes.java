@@ -147,12 +147,12 @@ public final class BarCodes {
 
     /** Tries the masks on the row itself: make draws it anew with the mask that is chosen. */
     private int bestMask() {
-        int best = 0;
-        int least = Integer.MAX_VALUE;
+        int best = NONE;
+        int least = 0;
         for (int mask = 0; mask < Square.MASKS; mask++) {
             form.draw(word, mask, made);
             int penalty = Square.penalty(made);
-            if (penalty < least) {
+            if (best == NONE || penalty < least) {
                 least = penalty;
                 best = mask;
             }
